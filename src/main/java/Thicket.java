@@ -741,10 +741,12 @@ public final class Thicket {
             sums[vertex] = graph.valueOf(vertex);
             lastEdges[vertex] = edge;
             if (graph.hasVertex(parent)) {
+                int latest = lastEdges[parent];
                 depths[vertex] = depths[parent] + 1;
                 sums[vertex] += sums[parent];
-                boolean wasLater = parent != order[0] && graph.comesBefore(edge, lastEdges[parent]);
-                lastEdges[vertex] = wasLater ? lastEdges[parent] : edge;
+                if (latest != NONE && graph.comesBefore(edge, latest)) {
+                    lastEdges[vertex] = latest;
+                }
             }
         }
 

@@ -384,6 +384,7 @@ public final class PromiseTests {
         x.addEdge(1, 4, 90);
         Checks.due("14", 3, () -> x.parallel(1, 4));
         Checks.due("14 turned", 3, () -> x.parallel(4, 1));
+        Checks.due("14 edge 0", 1, () -> x.parallel(0, 1));
         x.removeEdge(7);
         Checks.due("14 present ones alone", 2, () -> x.parallel(1, 4));
         Checks.due("14 none", 0, () -> x.parallel(0, 8));
@@ -395,6 +396,7 @@ public final class PromiseTests {
         Thicket x = bush();
         x.addEdge(4, 1, 9);
         Checks.due("15 same weight, by number", 3, () -> x.lightest(4, 1));
+        Checks.due("15 edge 0", 0, () -> x.lightest(1, 0));
         x.addEdge(1, 4, 2);
         Checks.due("15 by weight", 8, () -> x.lightest(4, 1));
         x.removeEdge(8);
@@ -423,6 +425,23 @@ public final class PromiseTests {
         Checks.due("17 removed", 39, x::forestWeightAnew);
         Checks.due("16 most", 190, line()::forestWeight);
         Checks.due("17 most", 190, line()::forestWeightAnew);
+        lastAddedIsFirst("16", Thicket::forestWeight);
+        lastAddedIsFirst("17", Thicket::forestWeightAnew);
+    }
+
+    private interface Whole {
+        Object answer(Thicket x);
+    }
+
+    private static void lastAddedIsFirst(String name, Whole call) {
+        Thicket x = withVertices(4);
+        x.addEdge(0, 1, 30);
+        x.addEdge(1, 2, 20);
+        x.addEdge(2, 0, 10);
+        Checks.due(name + " edge 0 goes out", 30, () -> call.answer(x));
+        x.addEdge(0, 3, 5);
+        x.addEdge(1, 3, 1);
+        Checks.due(name + " edge 1 goes out", 16, () -> call.answer(x));
     }
 
     private static void promise18() {
@@ -485,6 +504,9 @@ public final class PromiseTests {
         x.addEdge(4, 6, 99);
         Checks.due(name + " joined", true, () -> call.answer(x, 3, 7));
         Checks.due(name + " far", true, () -> call.answer(line(), 0, 19));
+        Checks.due(name + " vertex 0", true, () -> call.answer(x, 2, 0));
+        x.removeEdge(0);
+        Checks.due(name + " vertex 0 of another part", false, () -> call.answer(x, 1, 0));
         indexesAreChecked(name, call);
     }
 
@@ -511,6 +533,9 @@ public final class PromiseTests {
         Checks.throwsDue(name + " removed", STATE, () -> call.answer(x, 10));
         Checks.due(name + " changes nothing", 'f', () -> x.state(0));
         Checks.due(name + " changes no weight", 39, x::forestWeight);
+        x.setWeight(0, 50);
+        x.removeEdge(8);
+        Checks.due(name + " edge 0", 0, () -> call.answer(x, 7));
         edgeIsChecked(name, call);
     }
 
