@@ -6,8 +6,19 @@ final class Checks {
 
     private static int made = 0;
     private static int wrong = 0;
+    private static String subject = "";
 
     private Checks() {
+    }
+
+    /** Puts the subject ahead of what these checks print; none made is wrong too. */
+    static void about(String about, Runnable checks) {
+        int before = made;
+        subject = about + ": ";
+        checks.run();
+        boolean any = made > before;
+        same("any check", "true", String.valueOf(any));
+        subject = "";
     }
 
     static String answerOf(Call call) {
@@ -31,7 +42,7 @@ final class Checks {
         if (!want.equals(got)) {
             wrong++;
             if (wrong <= 50) {
-                System.out.println(what + " answered " + got + ", due is " + want);
+                System.out.println(subject + what + " answered " + got + ", due is " + want);
             }
         }
     }

@@ -81,11 +81,13 @@ public final class FaceTests {
         for (Method method : Thicket.class.getDeclaredMethods()) {
             int flags = method.getModifiers();
             Checks.due("private method " + method, true,
-                    () -> Modifier.isPublic(flags) || isPrivate(flags) && !taken.contains(method.getName()));
+                    () -> Modifier.isPublic(flags)
+                            || isPrivate(flags) && !taken.contains(method.getName()));
         }
         for (Class<?> inside : Thicket.class.getDeclaredClasses()) {
             Checks.due("static class " + inside, true,
-                    () -> Modifier.isStatic(inside.getModifiers()) && isPrivate(inside.getModifiers()));
+                    () -> Modifier.isStatic(inside.getModifiers())
+                            && isPrivate(inside.getModifiers()));
             for (Method method : inside.getDeclaredMethods()) {
                 Checks.due("name of " + method, false, () -> taken.contains(method.getName()));
             }

@@ -1,10 +1,4 @@
-import java.lang.reflect.InvocationTargetException;
-import java.lang.reflect.Method;
-import java.lang.reflect.Modifier;
-import java.util.ArrayList;
 import java.util.Arrays;
-import java.util.Comparator;
-import java.util.List;
 
 /**
  * Runs of 512 calls on fresh objects, each answer compared with the plain model's. The calls come
@@ -21,16 +15,14 @@ public final class ModelTests {
 
     private final Thicket thicket = new Thicket();
     private final PlainModel model = new PlainModel();
-    private final List<Method> methods;
     private final int run;
     private final int vertexLimit;
     private final int weightLimit;
     private final int wrongIn100;
     private final int changesIn100;
 
-    private ModelTests(int run, List<Method> methods) {
+    private ModelTests(int run) {
         this.run = run;
-        this.methods = methods;
         vertexLimit = new int[] {20, 8, 14, 4, 20, 20}[run % 6];
         weightLimit = new int[] {99, 3, 10, 1, 2}[run % 5];
         wrongIn100 = new int[] {2, 10, 0, 30}[run % 4];
@@ -38,15 +30,8 @@ public final class ModelTests {
     }
 
     public static void main(String[] args) {
-        List<Method> methods = new ArrayList<>();
-        for (Method method : Thicket.class.getDeclaredMethods()) {
-            if (Modifier.isPublic(method.getModifiers())) {
-                methods.add(method);
-            }
-        }
-        methods.sort(Comparator.comparing(Method::getName));
         for (int run = 0; run < RUNS; run++) {
-            new ModelTests(run, methods).play();
+            new ModelTests(run).play();
         }
         Checks.finish("ModelTests");
     }
@@ -69,7 +54,7 @@ public final class ModelTests {
             if (below(100) < changesIn100) {
                 change();
             } else {
-                ask(methods.get(below(methods.size())));
+                ask(Calls.NAMES.get(below(Calls.NAMES.size())));
             }
         }
         compareState();
@@ -92,37 +77,16 @@ public final class ModelTests {
         }
     }
 
-    private void ask(Method method) {
-        String[] kinds = kindsOf(method.getName(), method.getParameterCount());
+    private void ask(String name) {
+        String[] kinds = Calls.kindsOf(name);
         int[] arguments = new int[kinds.length];
         for (int i = 0; i < kinds.length; i++) {
             arguments[i] = argument(kinds[i]);
         }
-        if (method.getName().equals("addVertex") && model.values.size() >= vertexLimit) {
+        if (name.equals("addVertex") && model.values.size() >= vertexLimit) {
             arguments[0] = 100;
         }
-        compare(method, arguments);
-    }
-
-    private static String[] kindsOf(String name, int count) {
-        switch (name) {
-            case "addVertex": return new String[] {"value"};
-            case "setValue": return new String[] {"vertex", "value"};
-            case "addEdge": return new String[] {"vertex", "vertex", "weight"};
-            case "setWeight": return new String[] {"edge", "weight"};
-            case "addOnPath": return new String[] {"vertex", "vertex", "amount"};
-            case "otherEnd": return new String[] {"edge", "vertex"};
-            case "neighbour": return new String[] {"vertex", "index"};
-            case "pathVertex": case "ancestor": case "ancestorByWalk":
-                return new String[] {"vertex", "vertex", "index"};
-            case "weight": case "state": case "removeEdge": case "replacement":
-            case "replacementAnew":
-                return new String[] {"edge"};
-            default:
-                String[] kinds = new String[count];
-                Arrays.fill(kinds, "vertex");
-                return kinds;
-        }
+        compare(name, arguments);
     }
 
     private int argument(String kind) {
@@ -140,32 +104,8 @@ public final class ModelTests {
     }
 
     private void compare(String name, int... arguments) {
-        for (Method method : methods) {
-            if (method.getName().equals(name)) {
-                compare(method, arguments);
-            }
-        }
-    }
-
-    private void compare(Method method, int... arguments) {
-        String name = method.getName();
-        Object[] boxed = new Object[arguments.length];
-        for (int i = 0; i < boxed.length; i++) {
-            boxed[i] = arguments[i];
-        }
-        String want = model.answer(name, arguments);
         String what = "run " + run + ": " + name + Arrays.toString(arguments);
-        Checks.same(what, want, invoke(method, boxed));
-    }
-
-    private String invoke(Method method, Object[] arguments) {
-        try {
-            return String.valueOf(method.invoke(thicket, arguments));
-        } catch (InvocationTargetException e) {
-            return "throws " + e.getCause().getClass().getName();
-        } catch (IllegalAccessException e) {
-            return e.toString();
-        }
+        Checks.same(what, model.answer(name, arguments), Calls.answer(thicket, name, arguments));
     }
 
     private void compareState() {
