@@ -46,7 +46,21 @@ public final class ForestBoundaryTests {
                 x.removeEdge(edge);
             }
             Checks.due("all removed", 0, () -> call.answer(x));
+            Checks.due("the lightest added last", 4, () -> call.answer(heaviestFirst()));
         });
+    }
+
+    /** All four vertices joined with each other: the edges to 3 come first and are the heaviest. */
+    private static Thicket heaviestFirst() {
+        Thicket x = Graphs.withVertices(4);
+        x.addEdge(2, 3, 6);
+        x.addEdge(1, 3, 5);
+        x.addEdge(0, 3, 4);
+        x.addEdge(1, 2, 1);
+        x.addEdge(0, 2, 1);
+        x.addEdge(0, 1, 1);
+        x.setWeight(2, 2);
+        return x;
     }
 
     private static void trees() {
@@ -161,6 +175,13 @@ public final class ForestBoundaryTests {
             far.addEdge(19, 0, 99);
             Checks.due("round the whole line, its first", 19, () -> call.answer(far, 0));
             Checks.due("round the whole line, its last", 19, () -> call.answer(far, 18));
+            Thicket turned = heaviestFirst();
+            Checks.due("the lightest added last", 1, () -> call.answer(turned, 2));
+            Checks.due("the last added", 5, () -> call.answer(turned, 4));
+            turned.removeEdge(2);
+            Checks.due("edge 0, the heaviest", 0, () -> call.answer(turned, 1));
+            turned.removeEdge(0);
+            Checks.throwsDue("edge 0 no more", ABSENT, () -> call.answer(turned, 1));
         });
         document.refuses(promise, INDEX, NO_EDGE, () -> Refusals.noSuchEdge(call));
         document.refuses(promise, STATE, "if the edge does not belong to the forest", () -> {
