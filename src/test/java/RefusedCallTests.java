@@ -148,7 +148,8 @@ public final class RefusedCallTests {
             case "weight": return new int[] {least, -1, 0, 1, 50, 99, 100, 261, most};
             case "amount": return new int[] {least, -10, -9, 0, 9, 10, 256, most};
             case "index": return new int[] {least, -1, 0, 1, 2, 18, 19, 20, most};
-            case "edge": return new int[] {least, -1, 0, 1, 5, edges - 2, edges - 1, edges, 60, most};
+            case "edge":
+                return new int[] {least, -1, 0, 1, 5, edges - 2, edges - 1, edges, 60, most};
             default: return new int[] {least, -1, 0, 1, 6, vertices - 1, vertices, most};
         }
     }
